@@ -493,6 +493,14 @@ public final class PromisesTest {
         due("gone with its transaction", x.size(2), 0);
         due("create anew", x.create(2, 2, false), 0);
         due("all bytes 0", x.read(2, 0), 0);
+        for (int file = 0; file < 6; file++) {
+            CardFiles y = cardWithFile(file, 16);
+            y.torn(false, 0);
+            due("any file: size " + file, y.size(file), 0);
+            due("any file: create anew " + file, y.create(file, 1, false), 0);
+            y.torn(true, 0);
+            due("any file: size anew " + file, y.size(file), 1);
+        }
     }
 
     private static void tornUndoesChange() {
