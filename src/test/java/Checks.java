@@ -19,6 +19,10 @@ final class Checks {
         }
     }
 
+    int made() {
+        return made;
+    }
+
     boolean failed() {
         return wrong != 0;
     }
